@@ -393,7 +393,7 @@ public final class PromiseTests {
 
     private static void slit() {
         promise = "12";
-        BreathBags x = made("BG3G0M00M00P00P10P10");
+        BreathBags x = made("BG3G0M00M00P10P00P10");
         due("slit(0)", x.slit(0), 3);
         due("bag(0, 1)", x.bag(0, 1), 0);
         due("man(0, 4)", x.man(0, 4), 1);
@@ -482,6 +482,20 @@ public final class PromiseTests {
         }
         due("undo()", x.undo(), LATE);
         due("about(2)", x.about(2), 2);
+        undoOfEachBehindADay();
+    }
+
+    private static void undoOfEachBehindADay() {
+        for (int i = 0; i < 7; i++) {
+            BreathBags x = made("BG0G2M40M11P00P10P01P11P01P01");
+            x.day();
+            String before = seen(x);
+            long done = i == 0 ? x.put(0, 0) : i == 1 ? x.march(1, 2) : i == 2 ? x.claim(1, 0) : i == 3 ? x.day()
+                : i == 4 ? x.slit(0) : i == 5 ? x.fall(1) : x.put(1, 1);
+            due("act " + i + " can be", done >= 0, true);
+            due("undo() of act " + i, x.undo(), 1);
+            due("all, act " + i + " undone", seen(x), before);
+        }
     }
 
     private static void actOf(BreathBags x, int i) {
@@ -563,6 +577,9 @@ public final class PromiseTests {
         due("waits(2, 0)", x.waits(2, 0), 0);
         due("waits(0, 1)", x.waits(0, 1), 3);
         due("waits(1, 1)", x.waits(1, 1), 2);
+        BreathBags first = made("BG0G1M00M00M00P10P00P01P11");
+        due("waits(0, 0), the first one", first.waits(0, 0), 1);
+        due("waits(0, 1), the first one", first.waits(0, 1), 1);
         due("waits(3, 0)", x.waits(3, 0), UNKNOWN);
         due("waits(0, 2)", x.waits(0, 2), UNKNOWN);
         due("waits(-1, -1)", x.waits(-1, -1), UNKNOWN);
@@ -597,6 +614,9 @@ public final class PromiseTests {
         two.fall(1);
         due("route(1, 1), a man fell", two.route(1, 1), 1);
         due("route(3, 1) of two bags", two.route(3, 1), 12);
+        BreathBags five = made("BG0M00M00M00M00M00P00P10P20P30P40");
+        due("route(5, 0), each loses one", five.route(5, 0), 5);
+        due("route(5, 1), each loses one", five.route(5, 1), 5);
     }
 
     private static void judge() {
@@ -672,6 +692,10 @@ public final class PromiseTests {
         // 1 each of five: the fourth who comes makes it.
         BreathBags five = made("BG0M00M00M00M00M00P00P10P20P30P40");
         fraction("a fifth", five.share(3, true), five.share(3, false), 1, 5);
+        // 4, and 1 each of four: the first makes one whenever he comes, the others share the second.
+        BreathBags rich = made("BG0M00M00M00M00M00P00P00P00P00P10P20P30P40");
+        fraction("the rich one", rich.share(0, true), rich.share(0, false), 1, 1);
+        fraction("a poor one", rich.share(1, true), rich.share(1, false), 1, 4);
         // 3 and 1: each is needed; a third who has none makes nothing.
         BreathBags two = made("BG0M00M00M00P00P00P00P10");
         fraction("a half", two.share(0, true), two.share(0, false), 1, 2);
@@ -786,6 +810,9 @@ public final class PromiseTests {
         BreathBags five = made("BG0M00M00P00P10P00P10P00");
         due("rests(0, 1, 0, 0) of five", five.rests(0, 1, 0, 0), 1);
         due("rests(0, 1, 0, 1) of five", five.rests(0, 1, 0, 1), 11);
+        BreathBags lowest = made("BG0M00M00P00P10P10P10P10");
+        due("rests(0, 1, 0, 0), the lowest is his", lowest.rests(0, 1, 0, 0), 1);
+        due("rests(0, 1, 0, 1), the lowest is his", lowest.rests(0, 1, 0, 1), 11);
     }
 
     private static void battle() {
@@ -823,7 +850,7 @@ public final class PromiseTests {
 
     private static void years() {
         promise = "29";
-        BreathBags x = made("BG0G1G2M90M91M92M93M90P00P11P22P32P40");
+        BreathBags x = made("BG0G1G2M90M01M92M03M10P00P11P22P32P40");
         String before = seen(x);
         due("years(0)", x.years(0), BAD);
         due("years(31)", x.years(31), BAD);
@@ -831,7 +858,8 @@ public final class PromiseTests {
         due("seed is as it was", x.seed(0), 0);
         x.years(1);
         due("the seed behind one", x.seed(0), 1442695040888963407L);
-        x.years(30);
+        due("years(30) can be", x.years(30) >= 0, true);
+        due("the seed behind 30", x.seed(0), behind(30));
         due("all", seen(x), before);
         // Seeds whose first lot is 0 .. 39, so that each lot is seen once, alone.
         for (int lot = 0; lot < 40; lot++) {
@@ -839,6 +867,14 @@ public final class PromiseTests {
             due("years(1) of lot " + lot, x.years(1), 5 + changeByLot(lot));
         }
         due("all", seen(x), before);
+    }
+
+    private static long behind(int steps) {
+        long seed = 0;
+        for (int i = 0; i < steps; i++) {
+            seed = seed * 6364136223846793005L + 1442695040888963407L;
+        }
+        return seed;
     }
 
     private static long seedOfLot(int lot) {
@@ -851,10 +887,10 @@ public final class PromiseTests {
         return 0;
     }
 
-    /** In years' regiment each puts; claims are met by man * 3 + bag: 0, 4, 8, 11, 12; every bag has one; two leak one. */
+    /** In years' regiment men 1 and 3 have no Sunday to put; claims are met by man * 3 + bag: 0, 4, 8, 11, 12; every bag has one; two leak one. */
     private static int changeByLot(int lot) {
         if (lot < 15) {
-            return 1;
+            return lot / 3 % 2 == 0 ? 1 : 0;
         }
         if (lot < 30) {
             int pair = lot - 15;
