@@ -455,6 +455,7 @@ public final class PromiseTests {
             due("man(" + man + ", 2)", x.man(man, 2), grief[man]);
         }
         due("about(8)", x.about(8), 5);
+        due("about(4)", x.about(4), 0);
         due("about(2)", x.about(2), 21);
     }
 
@@ -606,6 +607,9 @@ public final class PromiseTests {
         due("route(1, -1)", x.route(1, -1), BAD);
         due("route(9, 2)", x.route(9, 2), BAD);
         due("about(3)", x.about(3), 7);
+        BreathBags third = made("BG0G0G0M00M00P01P12P02");
+        due("route(2, 1), the third bag's top is his too", third.route(2, 1), 11);
+        due("route(3, 0), the third bag's lowest is not", third.route(3, 0), 2);
         BreathBags one = made("BG0M00P00P00");
         due("route(2, 1) of one bag", one.route(2, 1), 2);
         BreathBags two = made("BG0G0M00M00P00P01P11");
