@@ -611,7 +611,7 @@ public final class BreathBags {
         int breathsInAll() {
             int sum = 0;
             for (int bag = 0; bag < bags; bag++) {
-                sum += breathsIn(bag);
+                sum += cell(COUNT + bag);
             }
             return sum;
         }

@@ -7,7 +7,9 @@ import java.nio.file.Files;
 import java.nio.file.Path;
 import java.util.Arrays;
 import java.util.List;
+import java.util.Map;
 import java.util.Set;
+import java.util.TreeMap;
 import java.util.TreeSet;
 import java.util.regex.Matcher;
 import java.util.regex.Pattern;
@@ -30,6 +32,8 @@ public final class LanguageTests {
         face();
         words();
         sizes();
+        objects();
+        depth();
         System.out.println("LanguageTests: " + wrong + " wrong");
         if (wrong != 0) {
             System.exit(1);
@@ -119,5 +123,49 @@ public final class LanguageTests {
                 must(i - begin <= 60, "a method of sixty lines at most: " + lines.get(begin));
             }
         }
+    }
+
+    /** All runs of calls share one room, so objects are made with the object alone and never by a call. */
+    private static void objects() throws IOException {
+        for (String line : Files.readAllLines(SOURCE)) {
+            must(!line.matches(".*\\bnew\\b.*") || line.matches(" +private final [^(]* = new [^;]*;") || line.matches(" *(//|/\\*).*"),
+                "made with the object alone: " + line.trim());
+        }
+        must(!Files.readString(SOURCE).contains(".clone("), "no copies of arrays");
+    }
+
+    /** Methods are told apart by their names alone, which can only make the deepest row of calls look deeper than it is. */
+    private static void depth() throws IOException {
+        Map<String, Set<String>> called = new TreeMap<>();
+        List<String> lines = Files.readAllLines(SOURCE);
+        String name = null;
+        for (String line : lines) {
+            Matcher head = Pattern.compile(" {4,8}[a-z][^=]*?(\\w+)\\([^()]*\\) \\{").matcher(line);
+            if (head.matches()) {
+                name = head.group(1);
+                called.computeIfAbsent(name, n -> new TreeSet<>());
+            } else if (name != null) {
+                Matcher call = Pattern.compile("(\\w+)\\(").matcher(line);
+                while (call.find()) {
+                    called.get(name).add(call.group(1));
+                }
+            }
+        }
+        must(called.size() > 80, "methods are found: " + called.size());
+        for (String each : called.keySet()) {
+            int deep = depthOf(each, called, 0);
+            must(deep <= 8, "calls go at most eight deep: " + each + " goes " + deep);
+        }
+    }
+
+    private static int depthOf(String name, Map<String, Set<String>> called, int above) {
+        if (!called.containsKey(name) || above > 20) {
+            return 0;
+        }
+        int deepest = 0;
+        for (String next : called.get(name)) {
+            deepest = Math.max(deepest, depthOf(next, called, above + 1));
+        }
+        return deepest + 1;
     }
 }
