@@ -97,7 +97,7 @@ public final class BoundaryOfTextTests {
     }
 
     private static void mostMen() {
-        Script.sentence("MEN 0, 1, .. (5 at most).");
+        Script.sentence("(5 at most).");
         Script.fault("BM00M00M00M00M00", NONE);
         Script.fault("BM00M00M00M00M00M", 16);
         Script.fault("BM00M00M00M00M00M00", 16);
@@ -231,7 +231,7 @@ public final class BoundaryOfTextTests {
             "about(2) = 8; about(3) = 0; about(4) = 3; about(5) = 2; about(7) = 7; about(8) = 1",
             "regiment() = 222; about(2) = 0; about(3) = 2; about(4) = 0; about(5) = 0; about(6) = 0; about(7) = 9; about(8) = 0",
             "man(0, 2) = 0; man(0, 4) = 0; man(1, 5) = 0; man(1, 1) = 9; bag(0, 2) = 0; bag(1, 2) = 1; bag(1, 1) = 1");
-        Script.sentence("THE TEXT is THE REGIMENT: 100 times BAGS, 10 times MEN, and BREATHS.");
+        Script.sentence("100 times BAGS, 10 times MEN, and BREATHS.");
         Script.onNew("tell(B); regiment() = 0; tell(BG0); regiment() = 100; tell(BM00); regiment() = 10");
         Script.onNew("tell(BG0G0G0M00M00M00M00M00P00); regiment() = 351");
         // Ten breaths and more go over into the men's figure, for the sum is only told as a sum.
