@@ -26,11 +26,15 @@ public final class LanguageTests {
     private static final String BANNED = "throw|throws|try|catch|finally|synchronized|assert|import|package|native|volatile|"
         + "Exact|hashCode|System|Thread|Object|Random|->|::";
 
+    /** Of what rule 4 allows that which the program uses; what is used anew is looked up there and put here. */
+    private static final Set<String> LIBRARY = Set.of("Math.min", "Math.max", "Integer.bitCount");
+
     private static int wrong = 0;
 
     public static void main(String[] args) throws IOException {
         face();
         words();
+        library();
         sizes();
         objects();
         depth();
@@ -101,8 +105,20 @@ public final class LanguageTests {
         must(own <= 20, type + " has at most twenty fields");
     }
 
+    private static String code() throws IOException {
+        return Files.readString(SOURCE).replaceAll("/\\*(?s:.*?)\\*/|//.*", "");
+    }
+
+    private static void library() throws IOException {
+        Set<String> own = Arrays.stream(BreathBags.class.getDeclaredClasses()).map(Class::getSimpleName).collect(Collectors.toSet());
+        Matcher used = Pattern.compile("\\b([A-Z][a-z]\\w*)\\.(\\w+)").matcher(code());
+        while (used.find()) {
+            must(own.contains(used.group(1)) || LIBRARY.contains(used.group()), "the library's " + used.group() + " is allowed");
+        }
+    }
+
     private static void words() throws IOException {
-        String code = Files.readString(SOURCE).replaceAll("/\\*(?s:.*?)\\*/|//.*", "");
+        String code = code();
         Matcher found = Pattern.compile("(?<![A-Za-z])(" + BANNED + ")(?![A-Za-z])").matcher(code);
         while (found.find()) {
             must(false, "no " + found.group() + " in the program");
